@@ -130,6 +130,16 @@ public final class PromiseTests {
         due("4 doughs", x.count(1), 2);
         due("4 second dough's LATE", x.dough(1, 4), 12);
         due("4 oven's DRAW", x.oven(0, 1), -2);
+        OvenNoses full = Check.told("o1 2;o3 4;o5 6;o7 8;o9 10;d1 1 1 1 1;d2 2 2 2 2;d3 3 3 3 3;d4 4 4 4 4;d5 5 5 5 5;d6 6 6 6 6;");
+        for (int o = 0; o < 5; o++) {
+            due("4 HEAT of " + o, full.oven(o, 0), 2 * o + 1);
+            due("4 DRAW of " + o, full.oven(o, 1), 2 * o + 2 - 9);
+        }
+        for (int d = 0; d < 6; d++) {
+            for (int what = 0; what < 5; what++) {
+                due("4 dough " + d + ", " + what, full.dough(d, what), d + 1);
+            }
+        }
     }
 
     private static void quarterFaults() {
@@ -150,6 +160,9 @@ public final class PromiseTests {
         reads("o4294967297 1;", -11);
         reads("oo0 0;", -10);
         reads("ox 0 0;", -10);
+        reads("oa 0 0;", -10);
+        reads("oz 0 0;", -10);
+        reads("az", -10);
         reads("x;", -10);
         reads("  x", -12);
         reads("O1 1;", -10);
@@ -534,6 +547,9 @@ public final class PromiseTests {
         due("13 OUT, GONE SOUR too", x.now(1), 2);
         x.shuts(1, 1);
         due("13 SHUT", x.now(4), 2);
+        OvenNoses sour = Check.told("d1 1 1 0 3;d1 1 1 0 4;");
+        sour.minutes(4);
+        due("13 the first GONE SOUR, at LATE not yet", sour.now(3), 1);
         for (int wrong : new int[] {-1, 5, LOW, HIGH}) {
             due("13 no what " + wrong, x.now(wrong), BAD);
         }
@@ -632,6 +648,10 @@ public final class PromiseTests {
         due("16 at LATE just so", edge.order(0, 999, -1), 3);
         due("16 row of three", edge.order(0, 999, 2), 2);
         due("16 ends", edge.order(0, 999, -2), 4);
+        OvenNoses slow = Check.told("o2 9;d1 1 99 60 99;d1 1 40 0 0;");
+        due("16 by 1 a minute", slow.order(0, 999, -1), 2);
+        due("16 waits till RISEN", slow.order(0, 999, -2), 159);
+        due("16 one too late by a minute", slow.order(0, 158, -1), 1);
     }
 
     // Promise 17
