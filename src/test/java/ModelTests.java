@@ -14,7 +14,8 @@ import java.util.regex.Pattern;
  */
 public final class ModelTests {
     private static final int RUNS = 1500;
-    private static final int CALLS = 500;
+    /** An object is good for 512 calls, and the last step of a run may ask twice. */
+    private static final int CALLS = 511;
     private static final int WRONG_ENOUGH = 20;
 
     public static void main(String[] args) {
