@@ -42,6 +42,7 @@ public final class TermBoundTests {
         vanillaOvens();
         oddsByX();
         oddsOfShutOnes();
+        oddsOfTheLeastSmell();
         kinds();
         imagesKeepNowAlone();
         imagesKeepWhatMayBeUndone();
@@ -796,6 +797,26 @@ public final class TermBoundTests {
         x.shuts(2, 1);
         due("all SHUT", x.odds(0, 2, 0, 0), 0);
         due("all SHUT: of one", x.odds(0, 2, 0, 1), 1);
+    }
+
+    // "that NOSE leads there: a fraction": however little it smells, only ovens that are there stand ahead.
+    private static void oddsOfTheLeastSmell() {
+        for (int draw : new int[] {0, 1, 9, 18}) {
+            OvenNoses alone = Check.told("o1 " + draw + ";d1 1 1 0 0;");
+            due("alone, DRAW told as " + draw + ": upper", alone.odds(0, 0, 3, 0), 7);
+            due("alone, DRAW told as " + draw + ": lower", alone.odds(0, 0, 3, 1), 10);
+        }
+        OvenNoses far = Check.told("o1 0;o1 1;d9 0 9 0 9;d0 9 9 0 9;");
+        due("SMELL -9, one ahead: upper", far.odds(0, 0, 3, 0), 21);
+        due("SMELL -9, one ahead: lower", far.odds(0, 0, 3, 1), 100);
+        far.puts(1, 1);
+        due("SMELL far below 0", far.smell(1, 0), -89);
+        due("far below 0, one ahead: upper", far.odds(0, 1, 3, 0), 21);
+        due("far below 0, one ahead: lower", far.odds(0, 1, 3, 1), 100);
+        due("SMELL -9, none ahead: upper", far.odds(0, 0, 3, 0), 7);
+        far.shuts(0, 1);
+        due("far below 0, alone: upper", far.odds(0, 1, 3, 0), 7);
+        due("far below 0, alone: lower", far.odds(0, 1, 3, 1), 10);
     }
 
     // ---- 4
