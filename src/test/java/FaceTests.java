@@ -54,13 +54,30 @@ public final class FaceTests {
             Check.holds(m + " is public or private", isPublic || Modifier.isPrivate(m.getModifiers()));
             Check.holds(m + " has a name of its own", isPublic || !publicNames.contains(m.getName()));
         }
+        Check.holds("some twelve classes", face.getDeclaredClasses().length < 12);
+        Check.holds("some twenty fields", ownFields(face) <= 20);
         for (Class<?> inside : face.getDeclaredClasses()) {
+            int open = Modifier.PUBLIC | Modifier.PROTECTED;
             Check.holds(inside + " is static", Modifier.isStatic(inside.getModifiers()));
+            Check.holds(inside + " is not open", (inside.getModifiers() & open) == 0);
+            Check.holds(inside + ": some twenty fields", ownFields(inside) <= 20);
+            for (Field f : inside.getDeclaredFields()) {
+                Check.holds(f + " is final, if static",
+                        !Modifier.isStatic(f.getModifiers()) || Modifier.isFinal(f.getModifiers()));
+            }
             for (Method m : inside.getDeclaredMethods()) {
                 Check.holds(m + " has a name of its own", !publicNames.contains(m.getName()));
                 Check.holds(m + " takes seven at most", m.getParameterCount() <= 7);
             }
         }
+    }
+
+    private static int ownFields(Class<?> of) {
+        int fields = 0;
+        for (Field f : of.getDeclaredFields()) {
+            fields += Modifier.isStatic(f.getModifiers()) ? 0 : 1;
+        }
+        return fields;
     }
 
     private static String signature(Method m) {
@@ -80,6 +97,8 @@ public final class FaceTests {
         Set<String> open = new TreeSet<>();
         for (Field f : OvenNoses.class.getDeclaredFields()) {
             if (!Modifier.isPrivate(f.getModifiers())) {
+                int constant = Modifier.PUBLIC | Modifier.STATIC | Modifier.FINAL;
+                Check.holds(f + " is a public constant", f.getModifiers() == constant && f.getType() == int.class);
                 open.add(f.getName());
             }
             Check.holds(f + " is final, if static",
@@ -100,5 +119,31 @@ public final class FaceTests {
         for (int i = 0; i < text.length(); i++) {
             Check.holds("sign at " + i + " is ASCII", text.charAt(i) < 128);
         }
+        bodies(code.split("\n"));
+    }
+
+    /** Methods stay short, and objects are made in constructors alone: all calls of a run share one room. */
+    private static void bodies(String[] lines) {
+        Pattern header = Pattern.compile("( +)((public|private|static|final) )*(\\w+(\\[\\])? )?(\\w+)\\([^()]*\\) \\{ *");
+        int made = 0;
+        for (int i = 0; i < lines.length; i++) {
+            Matcher m = header.matcher(lines[i]);
+            if (!m.matches() || Set.of("if", "for", "while", "switch").contains(m.group(6))) {
+                continue;
+            }
+            int end = i;
+            while (end < lines.length && !lines[end].equals(m.group(1) + "}")) {
+                boolean makes = lines[end].matches(".*\\bnew\\b.*");
+                Check.holds(m.group(6) + " makes no object", !makes || m.group(4) == null);
+                made += makes ? 1 : 0;
+                end++;
+            }
+            Check.holds(m.group(6) + " has some sixty lines at most", end - i <= 60);
+        }
+        int inAll = 0;
+        for (String line : lines) {
+            inAll += line.matches(".*\\bnew\\b.*") ? 1 : 0;
+        }
+        Check.due("objects made in bodies that were seen", made, inAll);
     }
 }
